@@ -27,7 +27,7 @@ public final class ValidPaths {
 
     private static final int BY_BEGINNING = 0, BY_EDGE = 1, BY_ACROSS = 2, BY_IN = 3, BY_BACK = 4;
     private static final int TRACK_STATES = 300;
-    private static final long LONGEST = 1000000000000L, UNKNOWN = Long.MAX_VALUE;
+    private static final long LONGEST = 1000000000000L, UNKNOWN = 2 * LONGEST;
 
     private final Program program = new Program();
     private final Flows flows = new Flows(program);
@@ -216,7 +216,7 @@ public final class ValidPaths {
         if (!program.hasNode(node) || !isWithin(part, PARTS)) {
             return BAD;
         }
-        if (part != WITHIN && !program.isCall(node)) {
+        if (!program.hasPart(node, part)) {
             return findings.answer(CAST);
         }
         if (!flows.hasRows(node, part)) {
@@ -238,10 +238,10 @@ public final class ValidPaths {
     }
 
     public int goes(int node, int part, int fact) {
-        if (!program.hasNode(node) || !isWithin(part, PARTS) || !isWithin(fact, FACTS)) {
+        if (!program.hasState(node, fact) || !isWithin(part, PARTS)) {
             return BAD;
         }
-        if (part != WITHIN && !program.isCall(node)) {
+        if (!program.hasPart(node, part)) {
             return findings.answer(CAST);
         }
         return flows.targets(node, part, fact);
@@ -278,14 +278,14 @@ public final class ValidPaths {
     }
 
     public int from(int node, int fact) {
-        if (!program.hasNode(node) || !isWithin(fact, FACTS)) {
+        if (!program.hasState(node, fact)) {
             return BAD;
         }
         return solving.isDone() ? solving.reached(node, fact) : STATE;
     }
 
     public int summary(int call, int fact) {
-        if (!program.hasNode(call) || !isWithin(fact, FACTS)) {
+        if (!program.hasState(call, fact)) {
             return BAD;
         }
         if (!program.isCall(call)) {
@@ -310,7 +310,7 @@ public final class ValidPaths {
     }
 
     public long length(int node, int fact) {
-        if (!program.hasNode(node) || !isWithin(fact, FACTS)) {
+        if (!program.hasState(node, fact)) {
             return BAD;
         }
         if (!solving.isDone()) {
@@ -324,7 +324,7 @@ public final class ValidPaths {
     }
 
     public int track(int node, int fact) {
-        if (!program.hasNode(node) || !isWithin(fact, FACTS)) {
+        if (!program.hasState(node, fact)) {
             return BAD;
         }
         if (!solving.isDone() || !has(solving.holding(node), fact)) {
@@ -440,13 +440,10 @@ public final class ValidPaths {
     }
 
     private int tellRow(int node, int part, int fact, int bits) {
-        if (!program.hasNode(node) || !isWithin(part, PARTS)) {
+        if (!program.hasState(node, fact) || !isWithin(part, PARTS) || !isWithin(bits, ALL_FACTS + 1)) {
             return BAD;
         }
-        if (!isWithin(fact, FACTS) || !isWithin(bits, ALL_FACTS + 1)) {
-            return BAD;
-        }
-        if (part != WITHIN && !program.isCall(node)) {
+        if (!program.hasPart(node, part)) {
             return findings.answer(CAST);
         }
         endSolving();
@@ -501,6 +498,15 @@ public final class ValidPaths {
 
         boolean hasNode(int node) {
             return isWithin(node, nodes);
+        }
+
+        boolean hasState(int node, int fact) {
+            return isWithin(node, nodes) && isWithin(fact, FACTS);
+        }
+
+        /** Whether a node's kind has one of the parts; only calls go in and come back. */
+        boolean hasPart(int node, int part) {
+            return part == WITHIN || isCall(node);
         }
 
         boolean hasRoomFor(int more) {
