@@ -245,6 +245,35 @@ public final class FlowSentencesTest extends Checks {
         goesAs("behind it", x, RETURN, WITHIN, 0, bits(0, 1));
     }
 
+    static void promise16_theRowOfZeroBehindThePartStays() {
+        ValidPaths x = kinds();
+        x.client(OWN);
+        int[] nodes = {SKIP, SET, CALL, CALL, CALL, RETURN}, parts = {WITHIN, WITHIN, WITHIN, IN, BACK, WITHIN};
+        for (int i = 0; i < nodes.length; i++) {
+            x.zero(nodes[i], parts[i], bits(3));
+            x.flow(nodes[i], parts[i], 12, bits(4));
+        }
+        int[] gone = {0, 2, 4};
+        for (int i : gone) due("forget", x.forget(nodes[i], parts[i]), 1);
+        for (int i : gone) {
+            goesAs("gone", x, nodes[i], parts[i]);
+            goesAs("behind it", x, nodes[i + 1], parts[i + 1], 0, bits(0, 3), 12, bits(4));
+        }
+    }
+
+    static void promise16_rowsBehindThePartAreNoneOfIts() {
+        Made behind = () -> {
+            ValidPaths x = kinds();
+            x.zero(SET, WITHIN, bits(3));
+            x.zero(CALL, IN, bits(3));
+            x.zero(RETURN, WITHIN, bits(3));
+            return x;
+        };
+        found(ALWAYS, "of the node ahead", NOTHING, behind, x -> x.forget(SKIP, WITHIN));
+        found(ALWAYS, "ACROSS", NOTHING, behind, x -> x.forget(CALL, WITHIN));
+        found(ALWAYS, "BACK", NOTHING, behind, x -> x.forget(CALL, BACK));
+    }
+
     static void promise16_whereNoneWasToldIsNothing() {
         found(ALWAYS, "a node's", NOTHING, () -> program(), x -> x.forget(0, WITHIN));
         found(ALWAYS, "ACROSS", NOTHING, () -> program(), x -> x.forget(5, WITHIN));

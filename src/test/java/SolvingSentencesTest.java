@@ -39,6 +39,40 @@ public final class SolvingSentencesTest extends Checks {
         }
     }
 
+    /** 64 nodes: MAIN (local 5) in a row from its enter by 2 .. 61 to its leave and to call 62 of itself; of UNSET. */
+    static ValidPaths full() {
+        ValidPaths x = nodes(62);
+        due("the last two", x.call(0, 0, NONE, 0), 62);
+        lead(x, 61, 62);
+        lead(x, 63, 1);
+        x.client(UNSET);
+        return solved(x);
+    }
+
+    /** MAIN goes by calls 4 and 6, one behind the other; procedure 1 from its enter to its leave by so many nodes. */
+    static ValidPaths oneBehindTheOther(int within, int begin) {
+        ValidPaths x = with(0, 0, 0, 0);
+        x.client(OWN);
+        x.begin(begin);
+        x.call(0, 1, NONE, 0);
+        x.call(0, 1, NONE, 0);
+        lead(x, 0, 4);
+        lead(x, 5, 6);
+        lead(x, 7, 1);
+        int last = 2;
+        for (int i = 0; i < within; i++) {
+            int next = x.node(1, SKIP, 0, 0, 0);
+            lead(x, last, next);
+            last = next;
+        }
+        lead(x, last, 3);
+        rows(x, 4, WITHIN);
+        rows(x, 6, WITHIN);
+        return x;
+    }
+
+    static final int[] FIRST_AND_LAST = {1, 12};
+
     // ---------------------------------------------------------------- promise 19: solve
 
     static void promise19_withNoProcedureIsState() {
@@ -388,6 +422,22 @@ public final class SolvingSentencesTest extends Checks {
         due("of UNSET", x.holds(10), bits(0, 1, 2, 3, 4, 5, 6));
     }
 
+    static void promise21_ofTheLastNode() {
+        ValidPaths x = full();
+        for (int n = 0; n < 64; n++) due("holds(" + n + ")", x.holds(n), bits(0, 1, 2, 3, 4, 5));
+        due("holds(64)", x.holds(64), BAD);
+    }
+
+    static void promise21_theFirstAndTheLastFactComeThroughCalls() {
+        for (int f : FIRST_AND_LAST) {
+            for (int within = 0; within <= 4; within += 4) {
+                ValidPaths x = solved(oneBehindTheOther(within, bits(f)));
+                int[] nodes = {2, 3, 5, 6, 7, 1};
+                for (int n : nodes) due("holds(" + n + ")", x.holds(n), bits(0, f));
+            }
+        }
+    }
+
     // ---------------------------------------------------------------- promise 22: edges
 
     static void promise22_notSolvedIsState() {
@@ -448,6 +498,20 @@ public final class SolvingSentencesTest extends Checks {
         due("ZERO to ZERO, 1 to 4", x.edges(true), 2);
     }
 
+    static void promise22_ofTheFirstAndTheLastFact() {
+        for (int f : FIRST_AND_LAST) {
+            ValidPaths x = solved(oneBehindTheOther(0, bits(f)));
+            due("ZERO and " + f + " of both calls", x.edges(true), 4);
+            due("both at eight nodes", x.edges(false), 16);
+        }
+    }
+
+    static void promise22_ofTheLastNode() {
+        ValidPaths x = full();
+        due("each of six at each node", x.edges(false), 6 * 64);
+        due("ZERO and the globals", x.edges(true), 5);
+    }
+
     // ---------------------------------------------------------------- promise 23: from
 
     static void promise23_noNodeIsBad() {
@@ -490,6 +554,33 @@ public final class SolvingSentencesTest extends Checks {
         solved(x);
         due("from(1, 12)", x.from(1, 12), bits(12));
         due("from(1, 0)", x.from(1, 0), 1);
+    }
+
+    static void promise23_byEachOfTwoThatGoInToOne() {
+        ValidPaths x = oneBehindTheOther(0, bits(1, 2));
+        rows(x, 4, IN, 1, bits(3), 2, bits(3));
+        rows(x, 4, BACK, 3, bits(4));
+        solved(x);
+        due("by 1", x.from(5, 1), bits(4));
+        due("by 2", x.from(5, 2), bits(4));
+        due("by ZERO", x.from(5, 0), 1);
+    }
+
+    static void promise23_byTheFirstAndTheLastThroughCalls() {
+        for (int f : FIRST_AND_LAST) {
+            for (int within = 0; within <= 4; within += 4) {
+                ValidPaths x = solved(oneBehindTheOther(within, bits(f)));
+                due("the first return", x.from(5, f), bits(f));
+                due("the second return", x.from(7, f), bits(f));
+                due("within", x.from(3, f), bits(f));
+            }
+        }
+    }
+
+    static void promise23_ofTheLastNode() {
+        ValidPaths x = full();
+        for (int f = 0; f <= 12; f++) due("from(63, " + f + ")", x.from(63, f), f <= 5 ? bits(f) : 0);
+        due("from(64, 0)", x.from(64, 0), BAD);
     }
 
     // ---------------------------------------------------------------- promise 24: summary
@@ -559,6 +650,17 @@ public final class SolvingSentencesTest extends Checks {
         due("12", x.summary(4, 12), bits(0, 6, 12));
     }
 
+    static void promise24_ofTheFirstAndTheLastFact() {
+        for (int f : FIRST_AND_LAST) {
+            ValidPaths x = oneBehindTheOther(0, bits(f));
+            rows(x, 6, IN, f, bits(13 - f));
+            rows(x, 6, BACK, 13 - f, bits(0, 6));
+            solved(x);
+            due("the first call", x.summary(4, f), bits(f));
+            due("the second call", x.summary(6, f), bits(0, 6));
+        }
+    }
+
     // ---------------------------------------------------------------- promise 25: share
 
     /** One at the enter and the leave, two at the enter alone. */
@@ -589,6 +691,11 @@ public final class SolvingSentencesTest extends Checks {
         x.flow(0, WITHIN, 1, 0);
         solved(x);
         due("share(1)", x.share(1), 1000);
+    }
+
+    static void promise25_ofTheLastNode() {
+        ValidPaths x = full();
+        for (int f = 1; f <= 12; f++) due("share(" + f + ")", x.share(f), f <= 5 ? 200 : 0);
     }
 
     static void promise25_zeroAndNoFactAreBad() {
@@ -728,6 +835,111 @@ public final class SolvingSentencesTest extends Checks {
         return solved(x);
     }
 
+    static void promise26_theNearestEnterGoesOnFirst() {
+        // procedure a is near and calls b; b is called from MAIN too, but far off; b calls c
+        int[][] orders = {{1, 2, 3}, {2, 1, 3}, {3, 2, 1}, {1, 3, 2}, {2, 3, 1}, {3, 1, 2}};
+        for (int[] p : orders) {
+            ValidPaths x = with(0, 0, 0, 0, 0, 0, 0, 0);
+            int near = x.call(0, p[0], NONE, 0), far = x.call(0, p[1], NONE, 0), on = x.call(p[0], p[1], NONE, 0), last = x.call(p[1], p[2], NONE, 0);
+            int s = x.node(0, SKIP, 0, 0, 0), t = x.node(0, SKIP, 0, 0, 0), u = x.node(0, SKIP, 0, 0, 0), v = x.node(0, SKIP, 0, 0, 0);
+            lead(x, 0, near);
+            lead(x, 0, s, t, u, v, far);
+            lead(x, x.ends(p[0], false), on);
+            lead(x, x.ends(p[1], false), last);
+            solved(x);
+            due("a", x.length(x.ends(p[0], false), 0), 2);
+            due("b", x.length(x.ends(p[1], false), 0), 4);
+            due("c", x.length(x.ends(p[2], false), 0), 6);
+        }
+    }
+
+    static void promise26_theFirstAndTheLastFactThroughCalls() {
+        for (int f : FIRST_AND_LAST) {
+            for (int within = 0; within <= 4; within += 4) {
+                ValidPaths x = solved(oneBehindTheOther(within, bits(f)));
+                due("the first return", x.length(5, f), 4 + within);
+                due("the second return", x.length(7, f), 8 + 2 * within);
+                due("within", x.length(3, f), 3 + within);
+            }
+        }
+    }
+
+    static void promise26_byZeroThroughCalls() {
+        for (int within = 0; within <= 4; within += 4) {
+            ValidPaths x = oneBehindTheOther(within, 0);
+            x.zero(4, BACK, bits(7));
+            x.zero(6, BACK, bits(8));
+            solved(x);
+            due("the first return", x.length(5, 7), 4 + within);
+            due("the second return, the first ACROSS", x.length(7, 8), 6 + within);
+        }
+    }
+
+    static void promise26_byOtherFactsWithinASecondCall() {
+        for (int within = 0; within <= 4; within += 4) {
+            ValidPaths x = oneBehindTheOther(within, bits(1));
+            rows(x, 6, IN, 1, bits(2));
+            rows(x, 6, BACK, 2, bits(7));
+            solved(x);
+            due("the second return", x.length(7, 7), 8 + 2 * within);
+            due("within", x.length(3, 2), 7 + 2 * within);
+        }
+    }
+
+    static void promise26_ofTheLastFactThatEntersMainByACall() {
+        ValidPaths x = own(0, bits(1));
+        int call = x.call(0, 0, NONE, 0);
+        lead(x, 0, call);
+        rows(x, call, IN, 1, bits(12));
+        solved(x);
+        due("length(0, 12)", x.length(0, 12), 2);
+        due("length(0, 1)", x.length(0, 1), 0);
+    }
+
+    static void promise26_ofTheLastNode() {
+        ValidPaths x = full();
+        due("ACROSS", x.length(63, 0), 62);
+        due("BACK", x.length(63, 1), 124);
+        due("a fact that does not hold", x.length(63, 12), NONE);
+        due("no node", x.length(64, 0), BAD);
+    }
+
+    static void promise26_itIsOfTheLatestSolvingOfCalls() {
+        ValidPaths x = oneBehindTheOther(0, bits(1));
+        solved(x);
+        due("both calls", x.length(7, 1), 8);
+        due("within", x.length(3, 1), 3);
+        x.flow(4, WITHIN, 1, bits(1));
+        solved(x);
+        due("one ACROSS", x.length(7, 1), 6);
+        due("still within", x.length(3, 1), 3);
+        x.flow(4, WITHIN, 1, 0);
+        x.flow(0, WITHIN, 1, 0);
+        x.zero(6, IN, bits(1));
+        solved(x);
+        due("by ZERO", x.length(7, 1), 6);
+        due("within by the second call", x.length(3, 1), 5);
+    }
+
+    static void promise26_itIsOfTheLatestSolving() {
+        ValidPaths x = own(2, bits(1));
+        lead(x, 0, 2, 3, 1);
+        solved(x);
+        due("through all", x.length(1, 1), 3);
+        lead(x, 2, 1);
+        solved(x);
+        due("past one", x.length(1, 1), 2);
+        x.flow(2, WITHIN, 1, bits(2));
+        solved(x);
+        due("not any more", x.length(1, 1), NONE);
+        due("but 2", x.length(1, 2), 2);
+        x.flow(0, WITHIN, 1, bits(1, 2));
+        x.node(0, SKIP, 0, 0, 0);
+        lead(x, 0, 4);
+        solved(x);
+        due("the new node", x.length(4, 2), 1);
+    }
+
     static final long LONGEST = 1000000000000L;
 
     static void promise26_upToAThousandThousandThousandThousandItIsTold() {
@@ -790,6 +1002,16 @@ public final class SolvingSentencesTest extends Checks {
         ValidPaths x = far();
         due("a long one", x.track(3, 2), FULL);
         due("the longest", x.track(9, 1), FULL);
+    }
+
+    static void promise27_itIsOfTheLatestSolving() {
+        ValidPaths x = own(1, bits(1));
+        lead(x, 0, 2, 1);
+        solved(x);
+        tracks(x, 1, 1, state(0, 1, 0, 0), state(2, 1, 1, 0), state(1, 1, 1, 0));
+        lead(x, 0, 1);
+        solved(x);
+        tracks(x, 1, 1, state(0, 1, 0, 0), state(1, 1, 1, 0));
     }
 
     static void promise27_badComesBeforeFull() {
@@ -1033,6 +1255,16 @@ public final class SolvingSentencesTest extends Checks {
         tracks(x, 5, 9, state(0, 5, 0, 0), state(4, 5, 1, 0), state(2, 7, 3, 1), state(3, 10, 1, 1), state(5, 9, 4, 0));
     }
 
+    static void promise27_backByTheFirstThatFitsAndNoFurther() {
+        // 11 goes BACK to 10, which is also the fact that 9 was come from at the leave
+        ValidPaths x = around(0, bits(5));
+        rows(x, 4, IN, 5, bits(7, 8));
+        rows(x, 2, WITHIN, 7, bits(10), 8, bits(11));
+        rows(x, 4, BACK, 10, bits(9), 11, bits(10));
+        solved(x);
+        tracks(x, 5, 9, state(0, 5, 0, 0), state(4, 5, 1, 0), state(2, 7, 3, 1), state(3, 10, 1, 1), state(5, 9, 4, 0));
+    }
+
     static void promise27_backByAGreaterFactWhereThatIsShorter() {
         ValidPaths x = around(0, bits(4));
         int skip = x.node(1, SKIP, 0, 0, 0), end = x.node(1, SKIP, 0, 0, 0);
@@ -1108,6 +1340,54 @@ public final class SolvingSentencesTest extends Checks {
             state(2, 3, 1, 2), state(1, 3, 1, 2));
         tracks(x, 1, 1, state(0, 1, 0, 0), state(call, 1, 1, 0), state(0, 2, 3, 1), state(call, 2, 1, 1), state(0, 3, 3, 2),
             state(2, 3, 1, 2), state(1, 3, 1, 2), state(call + 1, 2, 4, 1), state(1, 2, 1, 1), state(call + 1, 1, 4, 0), state(1, 1, 1, 0));
+    }
+
+    static void promise27_twoCallsOneBehindTheOther() {
+        for (int f : FIRST_AND_LAST) {
+            ValidPaths x = solved(oneBehindTheOther(0, bits(f)));
+            tracks(x, 7, f, state(0, f, 0, 0), state(4, f, 1, 0), state(2, f, 3, 1), state(3, f, 1, 1), state(5, f, 4, 0),
+                state(6, f, 1, 0), state(2, f, 3, 1), state(3, f, 1, 1), state(7, f, 4, 0));
+            tracks(x, 3, f, state(0, f, 0, 0), state(4, f, 1, 0), state(2, f, 3, 1), state(3, f, 1, 1));
+            tracks(x, 3, 0, state(0, 0, 0, 0), state(4, 0, 1, 0), state(2, 0, 3, 1), state(3, 0, 1, 1));
+        }
+    }
+
+    static void promise27_byZeroThroughACall() {
+        ValidPaths x = oneBehindTheOther(1, bits(1));
+        x.zero(4, BACK, bits(7));
+        x.zero(6, BACK, bits(8));
+        solved(x);
+        tracks(x, 2, 1, state(0, 1, 0, 0), state(4, 1, 1, 0), state(2, 1, 3, 1));
+        tracks(x, 5, 7, state(0, 0, 0, 0), state(4, 0, 1, 0), state(2, 0, 3, 1), state(8, 0, 1, 1), state(3, 0, 1, 1), state(5, 7, 4, 0));
+        tracks(x, 7, 8, state(0, 0, 0, 0), state(4, 0, 1, 0), state(5, 0, 2, 0), state(6, 0, 1, 0), state(2, 0, 3, 1), state(8, 0, 1, 1),
+            state(3, 0, 1, 1), state(7, 8, 4, 0));
+    }
+
+    static void promise27_byFactsOfTheirOwnThroughEachCall() {
+        ValidPaths x = oneBehindTheOther(0, bits(12));
+        rows(x, 4, IN, 12, bits(11));
+        rows(x, 4, BACK, 11, bits(10));
+        rows(x, 6, IN, 10, bits(12));
+        rows(x, 2, WITHIN, 11, bits(11), 12, bits(1));
+        rows(x, 6, BACK, 1, bits(12));
+        solved(x);
+        tracks(x, 1, 12, state(0, 12, 0, 0), state(4, 12, 1, 0), state(2, 11, 3, 1), state(3, 11, 1, 1), state(5, 10, 4, 0),
+            state(6, 10, 1, 0), state(2, 12, 3, 1), state(3, 1, 1, 1), state(7, 12, 4, 0), state(1, 12, 1, 0));
+        tracks(x, 3, 1, state(0, 12, 0, 0), state(4, 12, 1, 0), state(2, 11, 3, 1), state(3, 11, 1, 1), state(5, 10, 4, 0),
+            state(6, 10, 1, 0), state(2, 12, 3, 1), state(3, 1, 1, 1));
+    }
+
+    static void promise27_ofTheLastNode() {
+        ValidPaths x = full();
+        due("track(63, 0)", x.track(63, 0), 63);
+        due("its end", x.at(62, 0), 63);
+        due("ACROSS", x.at(62, 2), 2);
+        due("track(63, 1)", x.track(63, 1), 125);
+        for (int i = 0; i < 125; i++) {
+            int within = i < 62 ? i : i - 62;
+            due("node " + i, x.at(i, 0), i == 61 ? 62 : i == 124 ? 63 : i == 123 ? 1 : within == 0 ? 0 : within + 1);
+            due("open " + i, x.at(i, 3), i < 62 || i == 124 ? 0 : 1);
+        }
     }
 
     // ---------------------------------------------------------------- promise 28: at

@@ -65,6 +65,25 @@ public final class TellingSentencesTest extends Checks {
         reportsAre("sinks", solved(inARow(x)), of(4, 5));
     }
 
+    static void promise29_ofTheFirstVariableAndTheLast() {
+        int[] variables = {1, 12};
+        for (int v : variables) {
+            ValidPaths x = with(8, 0);
+            x.node(0, SOURCE, v, 0, 0);
+            x.node(0, SINK, v, 0, 0);
+            reportsAre("variable " + v, solved(inARow(x)), of(3, v));
+        }
+    }
+
+    static void promise29_ofTheLastNode() {
+        ValidPaths x = nodes(63);
+        int sink = x.node(0, SINK, 1, 0, 0);
+        x.edge(0, sink);
+        x.client(UNSET);
+        reportsAre("node 63", solved(x), of(63, 1));
+        due("a node more", x.report(1, 0), NONE);
+    }
+
     static void promise29_ofTaintOtherNodesAreNotReported() {
         ValidPaths x = with(2, 0, 1, 1);
         x.node(0, SOURCE, 5, 0, 0);
@@ -318,7 +337,7 @@ public final class TellingSentencesTest extends Checks {
         due("finding()", x.finding(), CAST);
         due("fine", x.node(0, SKIP, 0, 0, 0), 11);
         due("finding()", x.finding(), CAST);
-        while (x.count(1) < 64) x.node(0, SKIP, 0, 0, 0);
+        for (int i = 12; i < 64; i++) x.node(0, SKIP, 0, 0, 0);
         due("FULL", x.node(0, SKIP, 0, 0, 0), FULL);
         due("finding()", x.finding(), CAST);
         due("asked again", x.finding(), CAST);
