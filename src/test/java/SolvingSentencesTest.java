@@ -438,6 +438,130 @@ public final class SolvingSentencesTest extends Checks {
         }
     }
 
+    static void promise21_theRowsOfAnEnterAndAReturnAreGoneByAsTheyAreLeft() {
+        ValidPaths x = oneBehindTheOther(0, bits(1));
+        x.flow(0, WITHIN, 1, bits(2));
+        x.flow(2, WITHIN, 2, bits(3));
+        x.flow(5, WITHIN, 3, bits(4));
+        solved(x);
+        due("the enter itself", x.holds(0), bits(0, 1));
+        due("behind the enter", x.holds(4), bits(0, 2));
+        due("the leave", x.holds(3), bits(0, 3, 4));
+        due("the return itself", x.holds(5), bits(0, 3));
+        due("behind the return", x.holds(6), bits(0, 4));
+    }
+
+    static void promise21_theRowOfALeaveIsGoneByNowhere() {
+        ValidPaths x = oneBehindTheOther(0, bits(1));
+        x.flow(3, WITHIN, 1, bits(2));
+        x.zero(3, WITHIN, bits(5));
+        solved(x);
+        for (int n = 0; n < 8; n++) due("holds(" + n + ")", x.holds(n), bits(0, 1));
+    }
+
+    static void promise21_partsOfACallAreGoneByEachForItself() {
+        ValidPaths x = oneBehindTheOther(0, bits(1));
+        x.flow(4, WITHIN, 1, bits(2));
+        x.flow(4, IN, 1, bits(3));
+        x.flow(4, BACK, 3, bits(4));
+        rows(x, 6, IN);
+        solved(x);
+        due("the call", x.holds(4), bits(0, 1));
+        due("within", x.holds(2), bits(0, 3));
+        due("its return", x.holds(5), bits(0, 2, 4));
+    }
+
+    static void promise21_aLeaveGoesBackToNoCallThatWasNotGoneInBy() {
+        ValidPaths x = with(0, 0, 0, 0, 0, 0);
+        int ofMain = x.call(0, 0, NONE, 0), gone = x.call(0, 1, NONE, 0), elsewhere = x.call(2, 1, NONE, 0);
+        lead(x, 0, gone);
+        lead(x, gone + 1, 1);
+        lead(x, 2, 3);
+        solved(x);
+        due("MAIN's leave", x.holds(1), 1);
+        due("of MAIN, which nothing called", x.holds(ofMain + 1), 0);
+        due("the leave", x.holds(3), 1);
+        due("where it was called", x.holds(gone + 1), 1);
+        due("of a procedure that nothing calls", x.holds(elsewhere + 1), 0);
+    }
+
+    static void promise21_callsWithinCallsComeBackWhereTheyWereCalled() {
+        ValidPaths x = with(2, 0, 1, 1, 1, 1);
+        x.outcome(1, 5);
+        x.outcome(2, 5);
+        int source = x.node(0, SOURCE, 5, 0, 0), a = x.call(0, 1, 6, 1), b = x.call(0, 1, 6, 1), inner = x.call(1, 2, 5, 1);
+        x.argument(a, 0, 5);
+        x.argument(b, 0, 6);
+        x.argument(inner, 0, 5);
+        lead(x, 0, source, a);
+        lead(x, 0, b);
+        lead(x, 2, inner);
+        lead(x, inner + 1, 3);
+        lead(x, 4, 5);
+        solved(x);
+        due("within both", x.holds(5), bits(0, 5));
+        due("where 5 was given", x.holds(a + 1), bits(0, 5, 6));
+        due("where it was not", x.holds(b + 1), 1);
+    }
+
+    /** MAIN (local 5, which is set) calls procedure 1 (locals 5, a parameter, and 6) by 5; of UNSET. */
+    static ValidPaths unsetThroughACall(int outcome) {
+        ValidPaths x = with(1, 0, 2, 1);
+        x.client(UNSET);
+        int set = x.node(0, SET, 5, 0, 0), call = x.call(0, 1, 5, 1);
+        x.argument(call, 0, 5);
+        x.outcome(1, outcome);
+        lead(x, 0, set, call);
+        lead(x, call + 1, 1);
+        lead(x, 2, 3);
+        return solved(x);
+    }
+
+    static void promise21_ofUnsetLocalsThatAreNoParametersHoldWhereAProcedureIsEntered() {
+        due("the enter", unsetThroughACall(NONE).holds(2), bits(0, 1, 2, 3, 4, 6));
+    }
+
+    static void promise21_ofUnsetTheResultHoldsIfTheOutcomeDoesOrThereIsNone() {
+        due("none", unsetThroughACall(NONE).holds(6), bits(0, 1, 2, 3, 4, 5));
+        due("one that is not set", unsetThroughACall(6).holds(6), bits(0, 1, 2, 3, 4, 5));
+        due("one that is set", unsetThroughACall(5).holds(6), bits(0, 1, 2, 3, 4));
+    }
+
+    static void promise21_aGlobalIsBehindACallWhatItIsInItsLeave() {
+        ValidPaths x = with(0, 0, 0, 0);
+        x.client(UNSET);
+        int call = x.call(0, 1, NONE, 0), set = x.node(1, SET, 1, 0, 0);
+        lead(x, 0, call);
+        lead(x, call + 1, 1);
+        lead(x, 2, set, 3);
+        solved(x);
+        due("the call", x.holds(call), bits(0, 1, 2, 3, 4));
+        due("behind it", x.holds(1), bits(0, 2, 3, 4));
+    }
+
+    static void promise21_aGlobalThatIsTheResultIsTheOutcomeAlone() {
+        ValidPaths x = with(1, 0, 1, 0);
+        int source = x.node(0, SOURCE, 1, 0, 0), call = x.call(0, 1, 1, 0), clean = x.node(1, CLEAN, 5, 0, 0);
+        x.outcome(1, 5);
+        lead(x, 0, source, call);
+        lead(x, call + 1, 1);
+        lead(x, 2, clean, 3);
+        solved(x);
+        due("within", x.holds(3), bits(0, 1));
+        due("behind it", x.holds(1), 1);
+    }
+
+    static void promise21_whatGoesRoundALoopHoldsInAllOfIt() {
+        ValidPaths x = with(4, 0);
+        int source = x.node(0, SOURCE, 5, 0, 0), last = x.node(0, COPY, 8, 7, 0), next = x.node(0, COPY, 7, 6, 0);
+        int first = x.node(0, COPY, 6, 5, 0);
+        lead(x, 0, source, last, next, first, last);
+        lead(x, first, 1);
+        solved(x);
+        due("at the first of three rounds' nodes", x.holds(last), bits(0, 5, 6, 7, 8));
+        due("the leave", x.holds(1), bits(0, 5, 6, 7, 8));
+    }
+
     // ---------------------------------------------------------------- promise 22: edges
 
     static void promise22_notSolvedIsState() {
@@ -581,6 +705,16 @@ public final class SolvingSentencesTest extends Checks {
         ValidPaths x = full();
         for (int f = 0; f <= 12; f++) due("from(63, " + f + ")", x.from(63, f), f <= 5 ? bits(f) : 0);
         due("from(64, 0)", x.from(64, 0), BAD);
+    }
+
+    static void promise23_aFactMayGoToZero() {
+        ValidPaths x = own(0, bits(1));
+        x.flow(0, WITHIN, 1, bits(0));
+        lead(x, 0, 1);
+        solved(x);
+        due("by 1", x.from(1, 1), 1);
+        due("by ZERO", x.from(1, 0), 1);
+        due("a path edge each", x.edges(false), 4);
     }
 
     // ---------------------------------------------------------------- promise 24: summary
